@@ -506,6 +506,14 @@ public final class BeetleIndex {
         }
     }
 
+    /** Copies so many numbers, but never more than both arrays have room for, and tells how many. */
+    private static int copyNumbers(int[] from, int[] to, int count) {
+        int most = Math.min(from.length, to.length);
+        int copied = Math.max(0, Math.min(count, most));
+        System.arraycopy(from, 0, to, 0, copied);
+        return copied;
+    }
+
     // ---- orders
 
     private boolean carryOutAll() {
@@ -771,10 +779,8 @@ public final class BeetleIndex {
         }
 
         void copyFrom(Row other) {
-            int count = Math.max(0, Math.min(other.size, keys.length));
-            System.arraycopy(other.keys, 0, keys, 0, count);
-            System.arraycopy(other.values, 0, values, 0, count);
-            size = count;
+            size = copyNumbers(other.keys, keys, other.size);
+            copyNumbers(other.values, values, size);
         }
 
         void mergeOf(Row older, Row younger) {
@@ -872,10 +878,8 @@ public final class BeetleIndex {
 
         void copyFrom(Tree other) {
             row.copyFrom(other.row);
-            System.arraycopy(other.places, 0, places, 0, TREE_ROOM);
-            int count = Math.max(0, Math.min(other.leafCount, LEAF_ROOM));
-            System.arraycopy(other.bounds, 0, bounds, 0, count);
-            leafCount = count;
+            copyNumbers(other.places, places, other.row.size);
+            leafCount = copyNumbers(other.bounds, bounds, other.leafCount);
             inLeaf = other.inLeaf;
             inNode = other.inNode;
         }
