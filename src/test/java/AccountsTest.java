@@ -76,6 +76,7 @@ public final class AccountsTest {
         x.erase(20);
         Check.sameDouble("48 all", x.overflowShare(), 1.0);
         x.erase(11);
+        Check.sameDouble("48 all, of one alone", x.overflowShare(), 1.0);
         x.erase(12);
         Check.sameDouble("48 empty leaf", x.overflowShare(), 0.0);
     }

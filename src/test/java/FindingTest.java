@@ -205,6 +205,22 @@ public final class FindingTest {
         }
         Check.same("27 more than the tree may have", y.found(), 232);
         Check.same("28 the last one", y.keyAt(231), 1071);
+        for (int merge = 0; merge < 4; merge++) {
+            Check.same("27 runs are merged", y.mergeRuns(), 24 + 12 * merge);
+        }
+        for (int run = 6; run < 11; run++) {
+            for (int i = 0; i < 12; i++) {
+                y.put(1000 + 12 * run + i, 1);
+            }
+            if (run < 10) {
+                y.closeRun();
+            }
+        }
+        Check.same("27 as many as tree and runs can have", y.found(), 292);
+        Check.same("28 the last one of them", y.keyAt(291), 1131);
+        Check.refuses("28 no more", Check.INDEX, y, () -> y.keyAt(292));
+        count(y, 0, 9999, 292);
+        Check.same("51 out of all of them", y.leavesIfBuilt(100), 73);
     }
 
     private static void nothingThere() {

@@ -11,6 +11,7 @@ public final class TreeTest {
         neverBuilt();
         appendedNodes();
         erase();
+        eraseBesideOverflow();
         changes();
         Check.end();
     }
@@ -309,6 +310,25 @@ public final class TreeTest {
         Check.same("8 undone", x.valueOf(40), 40);
         BeetleIndex empty = new BeetleIndex();
         Check.refuses("8 no tree", Check.STATE, empty, () -> empty.erase(0));
+    }
+
+    /** Two leaves with overflow leaves each: what moves up in one stays in the other. */
+    private static void eraseBesideOverflow() {
+        BeetleIndex x = new BeetleIndex();
+        x.changeLeaf(2);
+        Check.buildOf(x, 100, 10, 20, 30, 40);
+        for (int key : new int[] {11, 12, 29, 35, 32, 31}) {
+            Check.same("8 into overflow " + key, x.insert(key, key), 2);
+        }
+        x.erase(30);
+        Check.same("8 the third one, and the least of its leaf", x.pagesFor(31), 2 + 2);
+        x.erase(11);
+        Check.same("8 it moves up in the first leaf", x.pagesFor(29), 2 + 1);
+        Check.same("8 not in the second one", x.pagesFor(31), 2 + 2);
+        x.erase(35);
+        Check.same("8 then there, too", x.pagesFor(31), 2 + 1);
+        Check.same("8 not in the first one", x.overflowOf(0), 2);
+        Check.same("8 the first of them", x.pagesFor(32), 2 + 1);
     }
 
     private static void changes() {
