@@ -16,7 +16,7 @@ public final class AccountsTest {
     }
 
     private static void buildsAndWritten() {
-        BeetleIndex x = new BeetleIndex();
+        Counted x = new Counted();
         x.insert(1, 1);
         Check.same("45 not built", x.builds(), 0);
         Check.same("46 insert does not count", x.written(), 0);
@@ -39,7 +39,7 @@ public final class AccountsTest {
     }
 
     private static void told() {
-        BeetleIndex x = new BeetleIndex();
+        Counted x = new Counted();
         Check.same("47 none", x.told(), 0);
         x.put(1, 1);
         x.drop(2);
@@ -58,7 +58,7 @@ public final class AccountsTest {
     }
 
     private static void shares() {
-        BeetleIndex x = new BeetleIndex();
+        Counted x = new Counted();
         Check.sameDouble("48 nothing", x.overflowShare(), 0.0);
         x.changeLeaf(2);
         x.insert(10, 1);
@@ -82,7 +82,7 @@ public final class AccountsTest {
     }
 
     private static void pages() {
-        BeetleIndex x = new BeetleIndex();
+        Counted x = new Counted();
         Check.sameDouble("49 nothing", x.meanPages(), 0.0);
         Check.same("50 nothing", x.worstPages(), 0);
         x.drop(5);
@@ -109,7 +109,7 @@ public final class AccountsTest {
     }
 
     private static void ifBuilt() {
-        BeetleIndex x = new BeetleIndex();
+        Counted x = new Counted();
         Check.same("51 nothing", x.leavesIfBuilt(100), 0);
         Check.same("52 nothing", x.levelsIfBuilt(100), 0);
         x.put(1, 1);
@@ -134,7 +134,7 @@ public final class AccountsTest {
             Check.refuses("51 " + fill, Check.ARGUMENT, x, () -> x.leavesIfBuilt(fill));
             Check.refuses("52 " + fill, Check.ARGUMENT, x, () -> x.levelsIfBuilt(fill));
         }
-        BeetleIndex y = new BeetleIndex();
+        Counted y = new Counted();
         for (int i = 0; i < 160; i++) {
             y.insert(i, 1);
         }
@@ -160,11 +160,11 @@ public final class AccountsTest {
         for (int i = 0; i < 24; i++) {
             values.add(0L);
         }
-        Check.same("53 nothing", new BeetleIndex().digest(), hash(values));
+        Check.same("53 nothing", new Counted().digest(), hash(values));
     }
 
     private static void digestOfMuch() {
-        BeetleIndex x = new BeetleIndex();
+        Counted x = new Counted();
         x.changeLeaf(2);
         Check.buildOf(x, 100, 110, 120, 130);
         x.insert(115, 15);
@@ -195,7 +195,7 @@ public final class AccountsTest {
 
     /** What the list tells must change the hash, and what it does not tell must not. */
     private static void digestParts() {
-        BeetleIndex x = new BeetleIndex();
+        Counted x = new Counted();
         x.put(150, 1);
         long before = x.digest();
         x.append('c');

@@ -1,11 +1,20 @@
-/** What the tests of the promises share: comparing, refusals, and typing texts. */
+import java.io.IOException;
+import java.io.UncheckedIOException;
+import java.nio.file.Files;
+import java.nio.file.Path;
+
+/** What the tests share: comparing, refusals, typing texts, and the sentences of the document that they rest on. */
 final class Check {
     static final Class<?> ARGUMENT = IllegalArgumentException.class;
     static final Class<?> STATE = IllegalStateException.class;
     static final Class<?> INDEX = IndexOutOfBoundsException.class;
+    private static final Path DOCUMENT = Path.of("../shared/DOC.md");
 
     private static int checks;
     private static int wrong;
+    private static int sentences;
+    private static String document;
+    private static String sentence = "";
 
     interface Call {
         void make();
@@ -14,11 +23,31 @@ final class Check {
     private Check() {
     }
 
+    /** Says on which words of the document the checks behind it rest; they must stand there, letter by letter. */
+    static void sentence(String words) {
+        sentences++;
+        sentence = words;
+        if (!document().contains(words)) {
+            wrong++;
+            System.out.println("the document does not say \"" + words + "\"");
+        }
+    }
+
+    private static String document() {
+        try {
+            if (document == null) {
+                document = Files.readString(DOCUMENT).replace("`", "");
+            }
+            return document;
+        } catch (IOException e) {
+            throw new UncheckedIOException(e);
+        }
+    }
+
     static void same(String what, long got, long due) {
         checks++;
         if (got != due) {
-            wrong++;
-            System.out.println(what + " answered " + got + ", due is " + due);
+            fails(what + " answered " + got + ", due is " + due);
         }
     }
 
@@ -26,14 +55,25 @@ final class Check {
         same(what, got ? 1 : 0, due ? 1 : 0);
     }
 
+    static void sameText(String what, String got, String due) {
+        checks++;
+        if (!got.equals(due)) {
+            fails(what + "\n  answered " + got + "\n  due is   " + due);
+        }
+    }
+
     static void sameDouble(String what, double got, double due) {
         same(what + " (" + got + ", due " + due + ")", Double.doubleToLongBits(got), Double.doubleToLongBits(due));
     }
 
-    /** The call throws exactly this exception, and the object answers all as before. */
-    static void refuses(String what, Class<?> kind, BeetleIndex index, Call call) {
+    private static void fails(String what) {
+        wrong++;
+        System.out.println(what + (sentence.isEmpty() ? "" : "\n  the document: \"" + sentence + "\""));
+    }
+
+    /** The call throws exactly this exception, none of its subclasses. */
+    static void thrown(String what, Class<?> kind, Call call) {
         checks++;
-        String before = look(index);
         Class<?> thrown = null;
         try {
             call.make();
@@ -41,41 +81,41 @@ final class Check {
             thrown = e.getClass();
         }
         if (thrown != kind) {
-            wrong++;
-            System.out.println(what + " threw " + thrown + ", due is " + kind);
-        }
-        if (!look(index).equals(before)) {
-            wrong++;
-            System.out.println(what + " changed what it was refused to change");
+            fails(what + " threw " + thrown + ", due is " + kind);
         }
     }
 
-    /** What can be asked without changing anything, as one text. */
-    static String look(BeetleIndex index) {
-        StringBuilder all = new StringBuilder();
-        all.append(index.digest()).append(' ').append(index.savedStates()).append(' ').append(index.firstError());
-        for (int fill = 50; fill <= 100; fill++) {
-            all.append(' ').append(index.leavesIfBuilt(fill)).append('/').append(index.levelsIfBuilt(fill));
-        }
-        for (int key = 0; key < 400; key++) {
-            all.append(' ').append(index.pagesFor(key));
-        }
-        return all.toString();
+    /**
+     * The call throws exactly this exception, and the digest is as before: it tells of the buffer and of the number of
+     * saved states, too. What stands in slots and saved states is looked at by Twins.
+     */
+    static void refuses(String what, Class<?> kind, Counted x, Call call) {
+        long digest = x.digest();
+        int states = x.savedStates();
+        thrown(what, kind, call);
+        same(what + ", digest behind it", x.digest(), digest);
+        same(what + ", saved states behind it", x.savedStates(), states);
     }
 
-    static void type(BeetleIndex index, String text) {
-        index.clearBuffer();
+    static void type(Counted x, String text) {
+        x.clearBuffer();
         for (char c : text.toCharArray()) {
-            index.append(c);
+            x.append(c);
         }
     }
 
-    /** Puts and inserts so that the tree has these keys, each with the value key % 100, and is built so full. */
-    static void buildOf(BeetleIndex index, int fill, int... keys) {
+    static Counted typed(String text) {
+        Counted x = new Counted();
+        type(x, text);
+        return x;
+    }
+
+    /** Inserts these keys, each with the value key % 100, and builds so full. */
+    static void buildOf(Counted x, int fill, int... keys) {
         for (int key : keys) {
-            index.insert(key, key % 100);
+            x.insert(key, key % 100);
         }
-        index.build(fill);
+        x.build(fill);
     }
 
     static int[] keysFrom(int first, int step, int count) {
@@ -87,7 +127,8 @@ final class Check {
     }
 
     static void end() {
-        System.out.println(checks + " checks, " + wrong + " wrong");
+        String rests = sentences == 0 ? "" : ", on " + sentences + " sentences of the document";
+        System.out.println(checks + " checks, " + wrong + " wrong" + rests);
         if (wrong != 0) {
             System.exit(1);
         }

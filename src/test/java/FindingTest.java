@@ -12,8 +12,8 @@ public final class FindingTest {
     }
 
     /** Tree 10, 20 .. 90 in leaves of 4; run 2 tells of 20, 30 (gone), 95; run 1 of 30, 95 (gone), 40 (gone). */
-    private static BeetleIndex mixed() {
-        BeetleIndex x = new BeetleIndex();
+    private static Counted mixed() {
+        Counted x = new Counted();
         Check.buildOf(x, 100, Check.keysFrom(10, 10, 9));
         x.insert(15, 15);
         x.put(20, 2);
@@ -27,13 +27,13 @@ public final class FindingTest {
         return x;
     }
 
-    private static void isFound(BeetleIndex x, int key, boolean due) {
+    private static void isFound(Counted x, int key, boolean due) {
         Check.same("19 " + key, x.isFoundByTree(key), due);
         Check.same("20 " + key, x.isFoundByGoing(key), due);
     }
 
     private static void foundByRunsAndTree() {
-        BeetleIndex x = mixed();
+        Counted x = mixed();
         for (int key : new int[] {10, 15, 20, 30, 50, 60, 70, 80, 90}) {
             isFound(x, key, true);
         }
@@ -67,7 +67,7 @@ public final class FindingTest {
     }
 
     private static void pagesOfRuns() {
-        BeetleIndex x = mixed();
+        Counted x = mixed();
         Check.same("22 youngest closed run, none for the empty open one", x.pagesFor(30), 1);
         Check.same("22 gone in it", x.pagesFor(95), 1);
         Check.same("22 older run", x.pagesFor(20), 2);
@@ -79,7 +79,7 @@ public final class FindingTest {
         Check.same("22 open run", x.pagesFor(40), 1);
         Check.same("22 behind the open run", x.pagesFor(30), 2);
         Check.same("22 all", x.pagesFor(10), 5);
-        BeetleIndex y = new BeetleIndex();
+        Counted y = new Counted();
         Check.same("22 nothing there", y.pagesFor(5), 0);
         y.put(5, 1);
         Check.same("22 a run alone", y.pagesFor(5), 1);
@@ -93,7 +93,7 @@ public final class FindingTest {
     }
 
     private static void pagesOfOverflow() {
-        BeetleIndex x = new BeetleIndex();
+        Counted x = new Counted();
         x.changeLeaf(3);
         x.changeFan(2);
         Check.buildOf(x, 100, Check.keysFrom(0, 10, 10));
@@ -117,13 +117,13 @@ public final class FindingTest {
         Check.same("22 moved up to the first", x.pagesFor(33), 4);
     }
 
-    private static void count(BeetleIndex x, int least, int most, int due) {
+    private static void count(Counted x, int least, int most, int due) {
         Check.same("23 " + least + " to " + most, x.countByLeaves(least, most), due);
         Check.same("24 " + least + " to " + most, x.countByNext(least, most), due);
     }
 
     private static void counts() {
-        BeetleIndex x = mixed();
+        Counted x = mixed();
         count(x, 0, 9999, 9);
         count(x, 10, 90, 9);
         count(x, 11, 89, 7);
@@ -152,7 +152,7 @@ public final class FindingTest {
     }
 
     private static void nextAndBefore() {
-        BeetleIndex x = mixed();
+        Counted x = mixed();
         Check.same("25 from 0", x.nextKey(0), 10);
         Check.same("25 above a key", x.nextKey(10), 15);
         Check.same("25 to a key of a run", x.nextKey(15), 20);
@@ -177,7 +177,7 @@ public final class FindingTest {
     }
 
     private static void foundAndKeyAt() {
-        BeetleIndex x = mixed();
+        Counted x = mixed();
         int[] keys = {10, 15, 20, 30, 50, 60, 70, 80, 90};
         Check.same("27", x.found(), 9);
         for (int i = 0; i < keys.length; i++) {
@@ -193,7 +193,7 @@ public final class FindingTest {
         x.put(0, 1);
         Check.same("27 one more", x.found(), 9);
         Check.same("28 zero is first", x.keyAt(0), 0);
-        BeetleIndex y = new BeetleIndex();
+        Counted y = new Counted();
         for (int i = 0; i < 160; i++) {
             y.insert(i, 1);
         }
@@ -224,7 +224,7 @@ public final class FindingTest {
     }
 
     private static void nothingThere() {
-        BeetleIndex x = new BeetleIndex();
+        Counted x = new Counted();
         isFound(x, 5, false);
         Check.refuses("21 nothing", Check.STATE, x, () -> x.valueOf(5));
         Check.refuses("25 nothing", Check.STATE, x, () -> x.nextKey(0));

@@ -7,12 +7,13 @@ import java.util.List;
 import java.util.Map;
 
 /**
- * Long runs of calls, each answered by BeetleIndex and by Model. The numbers come from a fixed sequence, so that every
+ * Runs of 512 calls, each answered by BeetleIndex and by Model. The numbers come from a fixed sequence, so that every
  * run of this test is the same.
  */
 public final class ModelTest {
-    private static final int RUNS = 220;
-    private static final int CALLS = 500;
+    private static final int RUNS = 800;
+    /** What is left of the 512 calls for looking at all in the end. */
+    private static final int LOOKS = 130;
     private static final String[] FACE = {
         "put", "drop", "closeRun", "mergeRuns", "build", "insert", "erase", "changeLeaf", "changeFan", "append",
         "clearBuffer", "firstError", "follow", "keep", "goBack", "undo", "savedStates", "isFoundByTree",
@@ -36,7 +37,7 @@ public final class ModelTest {
     private static int wrong;
     private static int risen;
 
-    private final BeetleIndex index = new BeetleIndex();
+    private final Counted index = new Counted();
     private final Model model = new Model();
     private final List<String> calls = new ArrayList<>();
     private final int span;
@@ -48,6 +49,10 @@ public final class ModelTest {
     private static int any(int bound) {
         seed = seed * 6364136223846793005L + 1442695040888963407L;
         return (int) ((seed >>> 33) % bound);
+    }
+
+    private boolean hasCalls(int count) {
+        return index.calls() + count <= Counted.MOST_CALLS;
     }
 
     private static Method method(Class<?> owner, String name) {
@@ -178,6 +183,34 @@ public final class ModelTest {
             }
             compare(name, arguments);
         }
+        if (any(3) == 0) {
+            compare("digest");
+        }
+    }
+
+    /** Some runs begin with a tree or with closed runs that are nearly as great as may be. */
+    private void begin(int kind) throws IllegalAccessException {
+        if (kind == 0) {
+            compare("changeLeaf", 2 + any(7));
+            compare("changeFan", 2 + any(5));
+            for (int i = 0; i < 156; i++) {
+                compare("insert", any(3) == 0 ? any(10000) : (risen += 1 + any(5)), any(100));
+            }
+        } else if (kind == 1) {
+            for (int i = 0; i < 70; i++) {
+                compare("put", any(span), any(100));
+                if (i % 12 == 11) {
+                    compare("closeRun");
+                    compare("mergeRuns");
+                }
+            }
+        } else if (kind == 2) {
+            for (int i = 0; i < 6; i++) {
+                compare("put", i, i);
+                compare("drop", i + 1);
+                compare("closeRun");
+            }
+        }
         compare("digest");
     }
 
@@ -186,8 +219,10 @@ public final class ModelTest {
             Method method = method(Model.class, name);
             boolean changes = "put drop closeRun mergeRuns build insert erase changeLeaf changeFan append clearBuffer "
                     .concat("follow keep goBack undo ").contains(name + " ");
-            for (int i = 0; !changes && i < 1 + method.getParameterCount() * 8; i++) {
-                compare(name, anyArguments(name));
+            for (int i = 0; !changes && i < 1 + method.getParameterCount() * 2; i++) {
+                if (hasCalls(1)) {
+                    compare(name, anyArguments(name));
+                }
             }
         }
     }
@@ -198,17 +233,11 @@ public final class ModelTest {
             risen = any(20);
             ModelTest test = new ModelTest(new int[] {12, 40, 150, 400, 3000}[any(5)]);
             String[] leaning = LEANINGS[run % LEANINGS.length].split(" ");
-            for (int call = 0; call < CALLS && wrong == 0; call++) {
-                int kind = any(10);
-                if (kind < 8) {
-                    test.step(leaning[any(leaning.length)]);
-                } else {
-                    test.step(FACE[any(FACE.length)]);
-                }
-                if (call % 25 == 24) {
-                    test.lookAtAll();
-                }
+            test.begin(any(8));
+            while (wrong == 0 && test.hasCalls(LOOKS + 70)) {
+                test.step(any(10) < 8 ? leaning[any(leaning.length)] : FACE[any(FACE.length)]);
             }
+            test.lookAtAll();
         }
         System.out.println(wrong == 0 ? "all answers are those of the model" : wrong + " answers are wrong");
         if (wrong != 0) {

@@ -1,7 +1,7 @@
 /** Promises 29 to 33: runs, sizeOf, keyIn, isGoneIn, runOf. */
 public final class RunsAsTheyAreTest {
     public static void main(String[] args) {
-        BeetleIndex x = new BeetleIndex();
+        Counted x = new Counted();
         Check.same("29 none", x.runs(), 0);
         Check.same("30 the open one is always there", x.sizeOf(0), 0);
         Check.refuses("30 no closed one", Check.INDEX, x, () -> x.sizeOf(1));
@@ -21,7 +21,7 @@ public final class RunsAsTheyAreTest {
         Check.end();
     }
 
-    private static void asTheyAre(BeetleIndex x) {
+    private static void asTheyAre(Counted x) {
         Check.same("29 two", x.runs(), 2);
         Check.same("30 open", x.sizeOf(0), 1);
         Check.same("30 youngest", x.sizeOf(1), 2);
@@ -43,7 +43,7 @@ public final class RunsAsTheyAreTest {
         x.undo();
     }
 
-    private static void refused(BeetleIndex x) {
+    private static void refused(Counted x) {
         for (int run : new int[] {-1, 3, 7, Integer.MIN_VALUE, Integer.MAX_VALUE}) {
             Check.refuses("30 run " + run, Check.INDEX, x, () -> x.sizeOf(run));
             Check.refuses("31 run " + run, Check.INDEX, x, () -> x.keyIn(run, 0));

@@ -12,7 +12,7 @@ public final class RunsTest {
     }
 
     private static void newObject() {
-        BeetleIndex x = new BeetleIndex();
+        Counted x = new Counted();
         Check.same("1 runs", x.runs(), 0);
         Check.same("1 sizeOf(0)", x.sizeOf(0), 0);
         Check.same("1 entries", x.entries(), 0);
@@ -30,13 +30,13 @@ public final class RunsTest {
         Check.refuses("1 undo", Check.STATE, x, x::undo);
         Check.same("1 leaf size at first", x.changeLeaf(4), 4);
         Check.same("1 node size at first", x.changeFan(3), 3);
-        BeetleIndex other = new BeetleIndex();
+        Counted other = new Counted();
         x.put(5, 5);
         Check.same("1 objects share nothing", other.found(), 0);
     }
 
     private static void put() {
-        BeetleIndex x = new BeetleIndex();
+        Counted x = new Counted();
         Check.same("2 put first", x.put(0, 0), 1);
         Check.same("2 put greatest", x.put(9999, 99), 2);
         Check.same("2 put between", x.put(50, 7), 3);
@@ -57,7 +57,7 @@ public final class RunsTest {
     }
 
     private static void putRefused() {
-        BeetleIndex x = new BeetleIndex();
+        Counted x = new Counted();
         for (int i = 0; i < 12; i++) {
             Check.same("2 put " + i, x.put(100 - i, i), i + 1);
         }
@@ -75,7 +75,7 @@ public final class RunsTest {
     }
 
     private static void drop() {
-        BeetleIndex x = new BeetleIndex();
+        Counted x = new Counted();
         Check.same("3 drop of a key that is nowhere", x.drop(40), 1);
         Check.same("3 it is told", x.isGoneIn(0, 0), true);
         x.put(41, 1);
@@ -97,7 +97,7 @@ public final class RunsTest {
     }
 
     private static void closeRun() {
-        BeetleIndex x = new BeetleIndex();
+        Counted x = new Counted();
         Check.refuses("4 empty", Check.STATE, x, x::closeRun);
         for (int i = 1; i <= 6; i++) {
             x.put(10 * i, i);
@@ -113,14 +113,14 @@ public final class RunsTest {
         x.undo();
         Check.same("4 undone", x.runs(), 5);
         Check.same("4 open again", x.keyIn(0, 0), 60);
-        BeetleIndex gone = new BeetleIndex();
+        Counted gone = new Counted();
         gone.drop(5);
         Check.same("4 a run that tells of gone keys alone", gone.closeRun(), 1);
         Check.same("4 its key is gone", gone.isGoneIn(1, 0), true);
     }
 
     private static void mergeRuns() {
-        BeetleIndex x = new BeetleIndex();
+        Counted x = new Counted();
         x.put(10, 1);
         x.put(20, 1);
         x.put(30, 1);
@@ -158,13 +158,13 @@ public final class RunsTest {
     }
 
     private static void mergeRunsRefused() {
-        BeetleIndex x = new BeetleIndex();
+        Counted x = new Counted();
         x.put(1, 1);
         Check.refuses("5 none", Check.STATE, x, x::mergeRuns);
         x.closeRun();
         x.put(2, 2);
         Check.refuses("5 one", Check.STATE, x, x::mergeRuns);
-        BeetleIndex y = new BeetleIndex();
+        Counted y = new Counted();
         for (int run = 0; run < 5; run++) {
             for (int i = 0; i < 12; i++) {
                 y.put(run * 100 + i, run);

@@ -1,10 +1,11 @@
 /** Promises 11 to 14: append, clearBuffer, firstError, follow. */
 public final class TextsTest {
     private static final String[] TEXTS = {
-        "p0=0", "p9999=99", "p10=5;c", "d0", "d9999", "c", "b50", "b59", "b99", "b100", "i0=0", "i9999=99", "e0", "e9999",
-        "c;c;c", "p1=1;d1;c;b50;i1=1;e1", "p7=9", "d100", "d20", "i300=10"};
+        "p0=0", "p9999=99", "p10=5;c", "d0", "d9999", "c", "b50", "b59", "b99", "b100", "i0=0", "i9999=99", "e0",
+        "e9999", "c;c;c", "p1=1;d1;c;b50;i1=1;e1", "p7=9", "d100", "d20", "i300=10"};
     private static final String[] OPEN = {
-        "", "p", "p1", "p1=", "d", "b", "b5", "b9", "b1", "b10", "i", "i1", "i1=", "e", "c;", "p1=1;", "d1;p", "b50;b1"};
+        "", "p", "p1", "p1=", "d", "b", "b5", "b9", "b1", "b10", "i", "i1", "i1=", "e", "c;", "p1=1;", "d1;p",
+        "b50;b1"};
     /** In each the first error is the character behind "!". */
     private static final String[] WRONG = {
         "!x", "!P1=1", "!;", "!0", "!=", "!m", "!-", "c!c", "c!0", "c;!;", "p!=", "p!;", "p!c", "p!-1=1", "p0!0",
@@ -26,7 +27,7 @@ public final class TextsTest {
     }
 
     private static void append() {
-        BeetleIndex x = new BeetleIndex();
+        Counted x = new Counted();
         Check.same("11 first", x.append(33), 1);
         Check.same("11 last code", x.append(126), 2);
         Check.refuses("11 32", Check.ARGUMENT, x, () -> x.append(32));
@@ -43,7 +44,7 @@ public final class TextsTest {
     }
 
     private static void clearBuffer() {
-        BeetleIndex x = new BeetleIndex();
+        Counted x = new Counted();
         Check.same("12 empty", x.clearBuffer(), 0);
         Check.type(x, "xyz");
         Check.same("12 three", x.clearBuffer(), 3);
@@ -54,32 +55,29 @@ public final class TextsTest {
     }
 
     private static void firstError() {
-        BeetleIndex x = new BeetleIndex();
         for (String text : TEXTS) {
-            Check.type(x, text);
-            Check.same("13 " + text, x.firstError(), text.length());
+            Check.same("13 " + text, Check.typed(text).firstError(), text.length());
         }
         for (String text : OPEN) {
-            Check.type(x, text);
+            Counted x = Check.typed(text);
             Check.same("13 " + text, x.firstError(), text.length());
             Check.refuses("14 " + text, Check.ARGUMENT, x, x::follow);
         }
         for (String marked : WRONG) {
             String text = marked.replace("!", "");
-            Check.type(x, text);
+            Counted x = Check.typed(text);
             Check.same("13 " + marked, x.firstError(), marked.indexOf('!'));
             Check.refuses("14 " + text, Check.ARGUMENT, x, x::follow);
             Check.same("14 the buffer stays", x.clearBuffer(), text.length());
         }
-        Check.type(x, "c;c;c;c;c;c;c;c;c;c;c;c;c;c;c;c;c;c;c;c;c;c;c;c;c;c;c;c;c;p1");
+        Counted x = Check.typed("c;c;c;c;c;c;c;c;c;c;c;c;c;c;c;c;c;c;c;c;c;c;c;c;c;c;c;c;c;p1");
         Check.same("13 sixty characters of a longer text", x.firstError(), 60);
         Check.same("13 changes nothing", x.savedStates(), 0);
     }
 
     private static void everyFill() {
-        BeetleIndex x = new BeetleIndex();
         for (int fill = 0; fill <= 120; fill++) {
-            Check.type(x, "b" + fill);
+            Counted x = Check.typed("b" + fill);
             boolean isOrder = fill >= 50 && fill <= 100;
             boolean isBegun = fill >= 5 && fill <= 9 || fill == 1 || fill == 10;
             Check.same("13 b" + fill, x.firstError() == ("b" + fill).length(), isOrder || isBegun);
@@ -90,12 +88,12 @@ public final class TextsTest {
                 follows = false;
             }
             Check.same("14 b" + fill, follows, isOrder);
+            Check.same("14 built by b" + fill, x.builds(), isOrder ? 1 : 0);
         }
-        Check.same("14 each built", x.builds(), 51);
     }
 
     private static void follow() {
-        BeetleIndex x = new BeetleIndex();
+        Counted x = new Counted();
         Check.type(x, "p10=1;p20=2;d30;c;p30=3;b100;i15=4;e10;d20");
         Check.same("14 found then", x.follow(), 2);
         Check.same("14 the buffer is cleared", x.clearBuffer(), 0);
@@ -112,7 +110,7 @@ public final class TextsTest {
     }
 
     private static void followEach() {
-        BeetleIndex x = new BeetleIndex();
+        Counted x = new Counted();
         Check.type(x, "p9999=99");
         Check.same("14 p", x.follow(), 1);
         Check.same("14 p value", x.valueOf(9999), 99);
@@ -139,7 +137,7 @@ public final class TextsTest {
     }
 
     private static void followRefused() {
-        BeetleIndex x = new BeetleIndex();
+        Counted x = new Counted();
         for (String text : new String[] {"c", "e5", "p1=1;c;c", "p5=1;i5=1", "i5=1;d5;e5", "i5=1;e6", "i5=1;e5;e5"}) {
             Check.type(x, text);
             Check.refuses("14 " + text, Check.STATE, x, x::follow);
@@ -165,7 +163,7 @@ public final class TextsTest {
     }
 
     private static void followIsAllOrNothing() {
-        BeetleIndex x = new BeetleIndex();
+        Counted x = new Counted();
         for (int i = 0; i < 160; i++) {
             x.insert(i, 1);
         }

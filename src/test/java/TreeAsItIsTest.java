@@ -11,8 +11,8 @@ public final class TreeAsItIsTest {
     }
 
     /** Leaves of 3 with 10 20 30, 40 50 60, 70 80 90, 100 110 120, 130; nodes of 2. */
-    private static BeetleIndex built() {
-        BeetleIndex x = new BeetleIndex();
+    private static Counted built() {
+        Counted x = new Counted();
         x.changeLeaf(3);
         x.changeFan(2);
         Check.buildOf(x, 100, Check.keysFrom(10, 10, 13));
@@ -20,7 +20,7 @@ public final class TreeAsItIsTest {
     }
 
     private static void nothing() {
-        BeetleIndex x = new BeetleIndex();
+        Counted x = new Counted();
         x.put(5, 5);
         Check.same("34 without leaves", x.entries(), 0);
         Check.same("35 without leaves", x.leaves(), 0);
@@ -50,7 +50,7 @@ public final class TreeAsItIsTest {
     }
 
     private static void leaves() {
-        BeetleIndex x = built();
+        Counted x = built();
         for (int key : new int[] {45, 42, 49, 41, 5}) {
             x.insert(key, 1);
         }
@@ -83,7 +83,7 @@ public final class TreeAsItIsTest {
     }
 
     private static void refusedLeaves() {
-        BeetleIndex x = built();
+        Counted x = built();
         x.insert(45, 1);
         for (int leaf : new int[] {-1, 5, 512, Integer.MIN_VALUE, Integer.MAX_VALUE}) {
             Check.refuses("36 leaf " + leaf, Check.INDEX, x, () -> x.entriesOf(leaf));
@@ -98,7 +98,7 @@ public final class TreeAsItIsTest {
     }
 
     private static void nodes() {
-        BeetleIndex x = built();
+        Counted x = built();
         Check.same("40", x.levels(), 3);
         int[][] children = {{2, 2, 1}, {2, 1}, {2}};
         int[][] bounds = {{0, 70, 130}, {0, 130}, {0}};
@@ -113,7 +113,7 @@ public final class TreeAsItIsTest {
         x.erase(70);
         Check.same("43 stays", x.boundOf(0, 1), 70);
         Check.same("43 stays of the last", x.boundOf(1, 1), 130);
-        BeetleIndex y = new BeetleIndex();
+        Counted y = new Counted();
         y.changeFan(6);
         y.changeLeaf(2);
         Check.buildOf(y, 50, Check.keysFrom(3, 3, 43));
@@ -127,7 +127,7 @@ public final class TreeAsItIsTest {
     }
 
     private static void refusedNodes() {
-        BeetleIndex x = built();
+        Counted x = built();
         for (int level : new int[] {-1, 3, 32, Integer.MIN_VALUE, Integer.MAX_VALUE}) {
             Check.refuses("41 level " + level, Check.INDEX, x, () -> x.nodesAt(level));
             Check.refuses("42 level " + level, Check.INDEX, x, () -> x.childrenOf(level, 0));
@@ -143,7 +143,7 @@ public final class TreeAsItIsTest {
     }
 
     private static void bounds() {
-        BeetleIndex x = built();
+        Counted x = built();
         int[] keys = {0, 9, 10, 39, 40, 69, 70, 129, 130, 9999};
         int[] leaves = {0, 0, 0, 0, 1, 1, 2, 3, 4, 4};
         for (int i = 0; i < keys.length; i++) {

@@ -16,7 +16,7 @@ public final class TreeTest {
         Check.end();
     }
 
-    private static void shape(String what, BeetleIndex x, int... counts) {
+    private static void shape(String what, Counted x, int... counts) {
         Check.same(what + " leaves", x.leaves(), counts.length);
         for (int leaf = 0; leaf < counts.length && leaf < x.leaves(); leaf++) {
             Check.same(what + " leaf " + leaf, x.entriesOf(leaf), counts[leaf]);
@@ -24,7 +24,7 @@ public final class TreeTest {
     }
 
     private static void buildShapes() {
-        BeetleIndex x = new BeetleIndex();
+        Counted x = new Counted();
         Check.buildOf(x, 100, Check.keysFrom(10, 10, 10));
         shape("6 100", x, 4, 4, 2);
         Check.same("6 one level", x.levels(), 1);
@@ -57,7 +57,7 @@ public final class TreeTest {
     }
 
     private static void buildOfRuns() {
-        BeetleIndex x = new BeetleIndex();
+        Counted x = new Counted();
         Check.buildOf(x, 100, 10, 20, 30, 40, 50);
         x.insert(15, 15);
         x.put(20, 1);
@@ -89,7 +89,7 @@ public final class TreeTest {
     }
 
     private static void buildEmpty() {
-        BeetleIndex x = new BeetleIndex();
+        Counted x = new Counted();
         Check.same("6 without keys", x.build(50), 0);
         Check.same("6 it counts", x.builds(), 1);
         Check.same("6 it saves", x.savedStates(), 1);
@@ -106,7 +106,7 @@ public final class TreeTest {
     }
 
     private static void buildRefused() {
-        BeetleIndex x = new BeetleIndex();
+        Counted x = new Counted();
         for (int i = 0; i < 159; i++) {
             x.insert(i, i % 100);
         }
@@ -126,7 +126,7 @@ public final class TreeTest {
     }
 
     private static void insertIntoLeaves() {
-        BeetleIndex x = new BeetleIndex();
+        Counted x = new Counted();
         Check.same("7 first leaf", x.insert(50, 1), 3);
         Check.same("7 bound of the first leaf", x.leafFor(0), 0);
         Check.same("7 below", x.insert(40, 2), 1);
@@ -150,7 +150,7 @@ public final class TreeTest {
         for (int i = 0; i < 4; i++) {
             Check.same("7 key " + i, x.leafKey(0, i), keys[i]);
         }
-        BeetleIndex y = new BeetleIndex();
+        Counted y = new Counted();
         Check.buildOf(y, 50, Check.keysFrom(10, 10, 6));
         Check.same("7 room by fill", y.insert(15, 1), 1);
         Check.same("7 room in the middle", y.insert(45, 1), 1);
@@ -162,7 +162,7 @@ public final class TreeTest {
     }
 
     private static void insertBehindOverflow() {
-        BeetleIndex x = new BeetleIndex();
+        Counted x = new Counted();
         for (int key : new int[] {40, 50, 60, 70, 65}) {
             x.insert(key, 1);
         }
@@ -180,7 +180,7 @@ public final class TreeTest {
     }
 
     private static void insertRefused() {
-        BeetleIndex x = new BeetleIndex();
+        Counted x = new Counted();
         x.insert(10, 1);
         x.put(20, 1);
         x.closeRun();
@@ -194,7 +194,7 @@ public final class TreeTest {
         Check.refuses("7 closed run tells", Check.STATE, x, () -> x.insert(20, 1));
         Check.refuses("7 open run tells of gone", Check.STATE, x, () -> x.insert(30, 1));
         Check.refuses("7 run and tree", Check.STATE, x, () -> x.insert(10, 1));
-        BeetleIndex y = new BeetleIndex();
+        Counted y = new Counted();
         for (int i = 0; i < 160; i++) {
             y.insert(i, 1);
         }
@@ -203,13 +203,13 @@ public final class TreeTest {
         Check.same("7 in place with 160", y.insert(159, 2), 0);
         y.erase(3);
         Check.same("7 room again", y.insert(160, 2), 3);
-        BeetleIndex z = new BeetleIndex();
+        Counted z = new Counted();
         z.put(1, 1);
         Check.refuses("7 refused without a leaf", Check.STATE, z, () -> z.insert(1, 1));
     }
 
     private static void neverBuilt() {
-        BeetleIndex x = new BeetleIndex();
+        Counted x = new Counted();
         x.changeLeaf(2);
         x.changeFan(2);
         x.put(7, 7);
@@ -239,7 +239,7 @@ public final class TreeTest {
     }
 
     private static void appendedNodes() {
-        BeetleIndex x = new BeetleIndex();
+        Counted x = new Counted();
         x.changeLeaf(2);
         x.changeFan(2);
         for (int key = 0; key < 2; key++) {
@@ -269,7 +269,7 @@ public final class TreeTest {
     }
 
     private static void erase() {
-        BeetleIndex x = new BeetleIndex();
+        Counted x = new Counted();
         x.changeLeaf(2);
         Check.buildOf(x, 100, 10, 20, 30, 40);
         for (int key : new int[] {11, 15, 12, 18, 13}) {
@@ -308,13 +308,13 @@ public final class TreeTest {
         x.undo();
         x.undo();
         Check.same("8 undone", x.valueOf(40), 40);
-        BeetleIndex empty = new BeetleIndex();
+        Counted empty = new Counted();
         Check.refuses("8 no tree", Check.STATE, empty, () -> empty.erase(0));
     }
 
     /** Two leaves with overflow leaves each: what moves up in one stays in the other. */
     private static void eraseBesideOverflow() {
-        BeetleIndex x = new BeetleIndex();
+        Counted x = new Counted();
         x.changeLeaf(2);
         Check.buildOf(x, 100, 10, 20, 30, 40);
         for (int key : new int[] {11, 12, 29, 35, 32, 31}) {
@@ -332,7 +332,7 @@ public final class TreeTest {
     }
 
     private static void changes() {
-        BeetleIndex x = new BeetleIndex();
+        Counted x = new Counted();
         Check.buildOf(x, 100, Check.keysFrom(0, 1, 9));
         Check.same("9 before", x.changeLeaf(8), 4);
         Check.same("9 before then", x.changeLeaf(8), 8);

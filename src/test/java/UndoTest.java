@@ -11,7 +11,7 @@ public final class UndoTest {
     }
 
     private static void keep() {
-        BeetleIndex x = new BeetleIndex();
+        Counted x = new Counted();
         x.keep(0);
         Check.same("15 saves nothing", x.savedStates(), 0);
         x.put(1, 1);
@@ -29,7 +29,7 @@ public final class UndoTest {
     }
 
     private static void goBack() {
-        BeetleIndex x = new BeetleIndex();
+        Counted x = new Counted();
         Check.refuses("16 no snapshot", Check.STATE, x, () -> x.goBack(0));
         Check.refuses("16 -1", Check.ARGUMENT, x, () -> x.goBack(-1));
         Check.refuses("16 2", Check.ARGUMENT, x, () -> x.goBack(2));
@@ -56,8 +56,8 @@ public final class UndoTest {
         Check.same("16 and it still stays", x.found(), 1);
     }
 
-    private static BeetleIndex muchDone() {
-        BeetleIndex x = new BeetleIndex();
+    private static Counted muchDone() {
+        Counted x = new Counted();
         x.changeLeaf(2);
         x.changeFan(2);
         Check.buildOf(x, 100, Check.keysFrom(10, 10, 9));
@@ -77,7 +77,7 @@ public final class UndoTest {
         return x;
     }
 
-    private static void doMore(BeetleIndex x) {
+    private static void doMore(Counted x) {
         x.mergeRuns();
         x.build(50);
         x.changeLeaf(8);
@@ -89,10 +89,11 @@ public final class UndoTest {
     }
 
     /** Without the number of saved states and the slots, which are no part of a state. */
-    private static String look(BeetleIndex x) {
+    private static String look(Counted x) {
         StringBuilder all = new StringBuilder();
-        for (int key = 0; key < 400; key++) {
-            all.append(x.pagesFor(key)).append(x.isFoundByTree(key) ? "=" + x.valueOf(key) : "-").append(' ');
+        for (int place = x.found() - 1; place >= 0; place--) {
+            int key = x.keyAt(place);
+            all.append(key).append('=').append(x.valueOf(key)).append(':').append(x.pagesFor(key)).append(' ');
         }
         for (int run = 0; run <= x.runs(); run++) {
             for (int place = 0; place < x.sizeOf(run); place++) {
@@ -103,27 +104,31 @@ public final class UndoTest {
             all.append(x.entriesOf(leaf)).append('+').append(x.overflowOf(leaf)).append(' ');
         }
         all.append(x.builds()).append(' ').append(x.written()).append(' ').append(x.levels());
-        for (int fill = 50; fill <= 100; fill++) {
+        for (int fill = 50; fill <= 100; fill += 5) {
             all.append(' ').append(x.leavesIfBuilt(fill)).append('/').append(x.levelsIfBuilt(fill));
         }
         return all.toString();
     }
 
     private static void wholeState() {
-        BeetleIndex x = muchDone();
+        Counted x = muchDone();
         String before = look(x);
         x.keep(0);
         doMore(x);
-        Check.same("16 much is done", look(x).equals(before), false);
         x.goBack(0);
-        Check.same("16 all comes back", look(x).equals(before), true);
-        doMore(x);
-        x.goBack(0);
-        Check.same("16 all comes back again", look(x).equals(before), true);
+        Check.sameText("16 all comes back", look(x), before);
+        Counted y = muchDone();
+        y.keep(0);
+        doMore(y);
+        Check.same("16 much is done", look(y).equals(before), false);
+        y.goBack(0);
+        doMore(y);
+        y.goBack(0);
+        Check.sameText("16 all comes back again", look(y), before);
     }
 
     private static void undo() {
-        BeetleIndex x = new BeetleIndex();
+        Counted x = new Counted();
         Check.refuses("17 none", Check.STATE, x, x::undo);
         for (int i = 1; i <= 8; i++) {
             x.put(i, i);
@@ -152,7 +157,7 @@ public final class UndoTest {
     }
 
     private static void savedStates() {
-        BeetleIndex x = new BeetleIndex();
+        Counted x = new Counted();
         for (int i = 1; i <= 9; i++) {
             x.put(i, 1);
             Check.same("18 after " + i, x.savedStates(), Math.min(i, 6));
@@ -175,7 +180,7 @@ public final class UndoTest {
     }
 
     private interface Change {
-        void on(BeetleIndex x);
+        void on(Counted x);
     }
 
     private static void undoOfEach() {
@@ -185,7 +190,7 @@ public final class UndoTest {
             x -> x.erase(57), x -> x.changeLeaf(3), x -> x.changeLeaf(5), x -> x.changeFan(5), x -> x.changeFan(4),
             x -> x.goBack(0)};
         for (int i = 0; i < changes.length; i++) {
-            BeetleIndex x = muchDone();
+            Counted x = muchDone();
             x.keep(0);
             x.undo();
             x.undo();
