@@ -200,6 +200,32 @@ public final class InsertEdgesTest {
             x.erase(10);
             Check.same("an entry of the leaf itself moves nothing", x.pagesFor(keys[erased == 5 ? 4 : 5]), 3 + 3);
         }
+        onlyOfThatLeaf();
+    }
+
+    /** The least entry of the next leaf, and the greatest one of the leaf before, are in overflow leaves, too. */
+    private static void onlyOfThatLeaf() {
+        Counted x = threeLeaves();
+        for (int key : new int[] {27, 28, 29, 47, 48, 32, 31}) {
+            x.insert(key, 1);
+        }
+        x.erase(30);
+        x.erase(40);
+        for (int key : new int[] {57, 58, 59, 52, 51}) {
+            x.insert(key, 1);
+        }
+        x.erase(50);
+        x.erase(47);
+        Check.same("the greatest of the leaf before stays in the second one", x.pagesFor(29), 3 + 2);
+        Check.same("the third one moves up to the second place", x.pagesFor(32), 3 + 1);
+        Check.same("the fourth one moves up to the third place", x.pagesFor(31), 3 + 2);
+        Check.same("the least of the next leaf stays in the third one", x.pagesFor(51), 3 + 3);
+        x.erase(27);
+        Check.same("the greatest of the first leaf moves up", x.pagesFor(29), 3 + 1);
+        Check.same("the least of the second leaf does not", x.pagesFor(31), 3 + 2);
+        x.erase(57);
+        Check.same("the least of the last leaf moves up", x.pagesFor(51), 3 + 2);
+        Check.same("the second leaf's stay", x.pagesFor(31), 3 + 2);
     }
 
     private static void appendTwelve(Counted x) {

@@ -81,6 +81,27 @@ public final class TextsEdgesTest {
         Check.same("one", x.clearBuffer(), 1);
         Check.same("empty again", x.clearBuffer(), 0);
         Check.same("nothing is saved", x.savedStates(), 0);
+        Check.sentence("Clears the buffer.");
+        for (String rest : new String[] {";c", ";e1", ";p2=2", "9", "x", ";;;;"}) {
+            Counted y = Check.typed("p1=1" + rest);
+            Check.type(y, "p1=1");
+            Check.same("a longer text was there: no error in " + rest, y.firstError(), 4);
+            Check.same("nothing of it is followed, " + rest, y.follow(), 1);
+            Check.same("one key, " + rest, y.keyIn(0, 0), 1);
+            Check.same("no run is closed, " + rest, y.runs(), 0);
+            Check.type(y, "c");
+            Check.same("nor of the one before, " + rest, y.follow(), 1);
+            Check.same("one run is closed, " + rest, y.runs(), 1);
+        }
+        Counted z = new Counted();
+        z.insert(1, 1);
+        z.put(2, 2);
+        for (String order : new String[] {"c", "e1"}) {
+            Check.type(z, order + ";" + order);
+            Check.thrown("twice is refused, " + order, Check.STATE, z::follow);
+            Check.type(z, order);
+            Check.same("once is followed, " + order, z.follow(), order.equals("c") ? 2 : 1);
+        }
     }
 
     private static boolean follows(Counted x) {
