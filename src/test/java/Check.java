@@ -2,6 +2,8 @@ import java.io.IOException;
 import java.io.UncheckedIOException;
 import java.nio.file.Files;
 import java.nio.file.Path;
+import java.util.HashSet;
+import java.util.Set;
 
 /** What the tests share: comparing, refusals, typing texts, and the sentences of the document that they rest on. */
 final class Check {
@@ -9,10 +11,10 @@ final class Check {
     static final Class<?> STATE = IllegalStateException.class;
     static final Class<?> INDEX = IndexOutOfBoundsException.class;
     private static final Path DOCUMENT = Path.of("../shared/DOC.md");
+    private static final Set<String> SENTENCES = new HashSet<>();
 
     private static int checks;
     private static int wrong;
-    private static int sentences;
     private static String document;
     private static String sentence = "";
 
@@ -25,12 +27,31 @@ final class Check {
 
     /** Says on which words of the document the checks behind it rest; they must stand there, letter by letter. */
     static void sentence(String words) {
-        sentences++;
         sentence = words;
+        SENTENCES.add(sentence);
         if (!document().contains(words)) {
             wrong++;
             System.out.println("the document does not say \"" + words + "\"");
         }
+    }
+
+    /** As sentence(), but the words must stand in what the document says of this promise. */
+    static void promise(int number, String words) {
+        sentence = "Promise " + number + ": " + words;
+        SENTENCES.add(sentence);
+        if (!partOf(number).contains(words)) {
+            wrong++;
+            System.out.println("promise " + number + " does not say \"" + words + "\"");
+        }
+    }
+
+    private static String partOf(int number) {
+        int start = document().indexOf("## Promise " + number + ": ");
+        if (start < 0) {
+            return "";
+        }
+        int end = document().indexOf("\n## ", start);
+        return end < 0 ? document().substring(start) : document().substring(start, end);
     }
 
     private static String document() {
@@ -127,7 +148,7 @@ final class Check {
     }
 
     static void end() {
-        String rests = sentences == 0 ? "" : ", on " + sentences + " sentences of the document";
+        String rests = SENTENCES.isEmpty() ? "" : ", on " + SENTENCES.size() + " sentences of the document";
         System.out.println(checks + " checks, " + wrong + " wrong" + rests);
         if (wrong != 0) {
             System.exit(1);

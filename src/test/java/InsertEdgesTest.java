@@ -28,7 +28,8 @@ public final class InsertEdgesTest {
     }
 
     private static void withoutLeaves() {
-        Check.sentence("without leaves a leaf is appended for it;");
+        Check.sentence("An entry of a key that the tree does not have is written so:"
+                + " without leaves a leaf is appended for it;");
         for (int key : new int[] {0, 1, 5000, 9999}) {
             Counted x = new Counted();
             Check.same("into a new object", x.insert(key, 0), 3);

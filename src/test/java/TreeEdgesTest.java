@@ -1,7 +1,9 @@
 /** What the document says of the boundaries of the tree as it is built: leaves, nodes, bounds, 160 entries. */
 public final class TreeEdgesTest {
     public static void main(String[] args) {
+        oneBehindTheOther();
         eachKeyOnce();
+        allThatAreFound();
         levelsAsLongAs();
         levelsOfAppended();
         leavesAsFull();
@@ -28,6 +30,60 @@ public final class TreeEdgesTest {
         x.changeFan(inNode);
         Check.buildOf(x, 50, Check.keysFrom(10, 10, leaves));
         return x;
+    }
+
+    /** The keys of all leaves, one leaf behind the other, without those of overflow leaves. */
+    private static String keysOfLeaves(Counted x) {
+        StringBuilder keys = new StringBuilder();
+        for (int leaf = 0; leaf < x.leaves(); leaf++) {
+            for (int place = 0; place < x.entriesOf(leaf); place++) {
+                keys.append(x.leafKey(leaf, place)).append(' ');
+            }
+            keys.append("| ");
+        }
+        return keys.toString();
+    }
+
+    private static void oneBehindTheOther() {
+        Check.sentence("The tree has leaves, one behind the other, with entries of keys and values, by rising keys,");
+        Counted x = new Counted();
+        x.changeLeaf(3);
+        Check.buildOf(x, 67, 70, 30, 9999, 10, 50, 0, 20);
+        Check.sameText("built", keysOfLeaves(x), "0 10 | 20 30 | 50 70 | 9999 | ");
+        x.insert(40, 41);
+        x.insert(15, 16);
+        x.insert(60, 61);
+        x.insert(80, 81);
+        Check.sameText("inserted", keysOfLeaves(x), "0 10 15 | 20 30 40 | 50 60 70 | 9999 | ");
+        Check.same("a key between the last two leaves is none of the last one's", x.overflowOf(2), 1);
+        x.erase(60);
+        x.erase(0);
+        x.erase(40);
+        Check.sameText("erased", keysOfLeaves(x), "10 15 | 20 30 | 50 70 | 9999 | ");
+        Check.same("the value of an inserted one", x.valueOf(15), 16);
+        Check.same("the value of one in an overflow leaf", x.valueOf(80), 81);
+        Check.same("the value of a built one", x.valueOf(50), 50);
+        Check.same("the value of the greatest one", x.valueOf(9999), 99);
+    }
+
+    private static void allThatAreFound() {
+        Check.sentence("Building puts all keys that are found, by rising keys, into leaves:");
+        Counted x = new Counted();
+        Shapes.rich(x);
+        x.drop(190);
+        x.put(9999, 98);
+        x.put(0, 1);
+        int[] keys = {0, 100, 101, 103, 105, 107, 120, 130, 140, 150, 160, 170, 180, 310, 320, 9999};
+        int[] values = {1, 0, 1, 3, 5, 7, 5, 30, 40, 50, 60, 70, 80, 1, 7, 98};
+        Check.same("leaves of five", x.build(100), 4);
+        Check.same("all of them", x.entries(), keys.length);
+        Check.sameText("by rising keys", keysOfLeaves(x),
+                "0 100 101 103 105 | 107 120 130 140 150 | 160 170 180 310 320 | 9999 | ");
+        for (int i = 0; i < keys.length; i++) {
+            Check.same("leaf of " + keys[i], x.leafFor(keys[i]), i / 5);
+            Check.same("value of " + keys[i], x.valueOf(keys[i]), values[i]);
+        }
+        Check.sameDouble("none in overflow leaves", x.overflowShare(), 0.0);
     }
 
     private static void eachKeyOnce() {
